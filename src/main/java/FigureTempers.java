@@ -1273,7 +1273,10 @@ public final class FigureTempers {
             hold(opening);
             step();
             if (opening == OPEN_MORE || opening == OPEN_LESS) {
-                return takeToken('(') ? BEFORE : OVER;
+                if (token != '(') {
+                    return fail(1);
+                }
+                step();
             }
             return BEFORE;
         }
