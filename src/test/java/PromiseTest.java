@@ -402,6 +402,16 @@ public final class PromiseTest {
         fault("off row;", 1, 4);
         fault("off Left;", 1, 4);
         fault("off leftright;", 1, 4);
+        fault("offa 1;", 1, 0);
+        fault("offz 1;", 1, 0);
+        fault("offA 1;", 1, 0);
+        fault("offZ 1;", 1, 0);
+        fault("off 1z;", 1, 5);
+        fault("off`1;", 1, 3);
+        fault("off{1;", 1, 3);
+        fault("off@1;", 1, 3);
+        fault("off[1;", 1, 3);
+        fault("off 1:2;", 1, 5);
         fault("off 1?;", 1, 5);
         fault("off\t1;", 1, 3);
         fault("Off 1;", 1, 0);
@@ -517,6 +527,26 @@ public final class PromiseTest {
         due("apart, last", x.ofRow(0, 2), 60 + 3 + 23 + 20 + 3);
         x.day(2);
         due("day", x.ofRow(0, 2), 60 + 49 + 4 * 2);
+
+        String[] how = {"<", "<=", ">", ">=", "=", "#"};
+        boolean[][] so = {{true, false, false}, {true, true, false}, {false, false, true}, {false, true, true},
+            {false, true, false}, {true, false, true}};
+        for (int i = 0; i < how.length; i++) {
+            x = by("gets left" + how[i] + "right;");
+            x.row(12, -1, -1, -1, 0);
+            x.row(22, -1, -1, -1, 0);
+            x.row(32, -1, -1, -1, 0);
+            for (int k = 0; k < 3; k++) due("gets left" + how[i] + "right of " + (k + 1) + "2", x.ofRow(k, 3), so[i][k] ? 0 : 1);
+        }
+        x = by("gets not left<right and right>0 or left=5;");
+        x.row(12, -1, -1, -1, 0);
+        x.row(21, -1, -1, -1, 0);
+        x.row(20, -1, -1, -1, 0);
+        x.row(59, -1, -1, -1, 0);
+        due("not of the first ASK alone", x.ofRow(0, 3), 1);
+        due("not of the first ASK alone", x.ofRow(1, 3), 0);
+        due("and ahead of or", x.ofRow(2, 3), 1);
+        due("or", x.ofRow(3, 3), 0);
 
         x = by("gets left<5 and right<5 or left=9 and not right=9;");
         x.row(12, -1, -1, -1, 0);
@@ -799,6 +829,15 @@ public final class PromiseTest {
         x.row(12, 21, -1, -1, 0);
         x.turn(1, 2);
         due("off that comes to nothing", x.ordered(0, -1), 0);
+        x = by("gets bad=0;off left-right+last*apart*9;");
+        x.row(31, 12, -1, -1, 0);
+        x.turn(1, 2);
+        x.turn(2, 3);
+        // within them together -1; 3 1 1 2: 0 between them; 1 2 3 1: -1
+        due("what is within counts too", x.ordered(0, -1), -1);
+        x.row(21, 2, -1, -1, 0);
+        // 2 1 2: 1 and -1 + 9; 2 2 1: 0 and 1
+        due("last of a NUMBER of one digit", x.ordered(1, -1), -1);
     }
 
     private static void split() {
@@ -843,6 +882,11 @@ public final class PromiseTest {
         due("more is nearer", x.nearest(209), 210);
         x.turn(9, 9);
         due("below", x.nearest(9999), 9898);
+        x = new FigureTempers();
+        x.turn(1, 0);
+        due("down to 9", x.nearest(10), 9);
+        x = by("gets left=9 and right=9;");
+        due("up to 9999", x.nearest(9998), 9999);
         x = by("gets left>right;off 0;");
         due("off 0 is a quarrel too", x.nearest(11), 10);
         due("falling", x.nearest(9999), 9876);
@@ -868,6 +912,16 @@ public final class PromiseTest {
         x.turn(0, 0);
         due("not below 0", x.changed(0, 0), 0);
         due("not below 0", x.changed(0, 1), 1);
+        x = by("gets right=0;");
+        x.row(5, 1, -1, -1, 0);
+        due("down to 0", x.changed(0, 0), 1);
+        due("down to 0", x.changed(0, 1), 0);
+        x = by("gets right=9;");
+        x.row(9998, -1, -1, -1, 0);
+        due("up to 9999", x.changed(0, 1), 9999);
+        x.row(9999, 8, -1, -1, 0);
+        due("not the first", x.changed(1, 0), 1);
+        due("more", x.changed(1, 1), 9);
         x = new FigureTempers();
         x.row(9999, -1, -1, -1, 1);
         x.turn(9, 9);
@@ -1016,13 +1070,19 @@ public final class PromiseTest {
         due("13", x.grouping(13), -1);
         x.turn(0, 0);
         // 0 0 0: (1) and 0: 1; 0 and (1): 1. 0 0 1: (1) and 1: 2; 0 and (1): 1.
-        due("least", x.grouping(1), -1);
+        due("below 1", x.grouping(1), -1);
         due("least", x.grouping(2), 1);
         x = by("gets bad=0;off -7;");
         x.turn(0, 0);
         // 0 0 0: -7 and 0: -7 both; 0 0 1: -7 and 1: -6; 0 and 1: 1
         due("below 0", x.grouping(1), -1);
         due("below 0", x.grouping(2), 1);
+        x = by("gets left#0;");
+        // each 0 ahead of another: 0 0 0: (1) and 0: 1; 0 and (1): 2
+        due("the first of all", x.grouping(1), 0);
+        x = by("gets 1=2;off left*left;");
+        // 0 0 0: 0; 0 0 1: 1; 0 1 0: (1) and 0: 2; 0 and (2): 2; 0 1 1: (1) and 1: 3; 0 and (3): 3; 1 0 0: (2) and 0: 6; 1 and (0): 2
+        due("the first is not 0", x.grouping(2), 10000);
         x = by("gets bad=0;off -7;");
         x.turn(0, 7);
         // 0 1 6: (1) and 6: 7; 0 and (7): 0
@@ -1047,6 +1107,7 @@ public final class PromiseTest {
         x.turn(9, 0);
         due("noughts that are there", x.carried(999, 1001, true), 3);
         due("noughts that aren't", x.carried(999, 1, true), 1);
+        due("noughts that aren't", x.carried(1, 999, true), 1);
         due("not carried", x.carried(90, 10, true), 1);
         x.turn(1, 2);
         due("not carried", x.carried(21, 12, true), 0);
@@ -1076,6 +1137,10 @@ public final class PromiseTest {
         due("three", x.game(7, true), 1);
         x = by("gets left<right;");
         due("rising", x.game(7, true), 1 + 1);
+        x = by("gets left+right#3;");
+        due("0 and 9", x.game(513, true), 0);
+        // 1 2 9: 9 first: 1 or 2, then the other one quarrels; 1 first: 9, then 2; 2 first: 9, then 1
+        due("none by best play", x.game(518, false), 0);
         x = by("gets last=1 and apart=0;");
         due("last, not apart", x.game(7, false), 0);
     }
