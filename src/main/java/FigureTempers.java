@@ -640,9 +640,9 @@ public final class FigureTempers {
 
     /** All that a STEP changes, and the ROWS. */
     private static final class House {
-        final int[] cell = new int[CELLS];
+        final Judge judge = new Judge();
+        final int[] cell = judge.cell;
         final Row[] rows = new Row[MOST_ROWS];
-        final Judge judge;
         private final int[] saved = new int[CELLS];
         int count;
 
@@ -654,7 +654,6 @@ public final class FigureTempers {
             for (int i = 0; i < MOST_ROWS; i++) {
                 rows[i] = new Row();
             }
-            judge = new Judge(cell);
         }
 
         boolean has(int row) {
@@ -763,7 +762,7 @@ public final class FigureTempers {
 
     /** Says of TWO whether they get on, how far they put a ROW out, and how a TEMPER turns. */
     private static final class Judge {
-        private final int[] cell;
+        final int[] cell = new int[CELLS];
         private final int[] name = new int[NAMES];
         private final int[] stack = new int[64];
         // What was said of TWO counts as long as its round is the present one.
@@ -772,10 +771,6 @@ public final class FigureTempers {
         private int round;
         /** THE TEXT, null without. */
         Text law;
-
-        Judge(int[] cell) {
-            this.cell = cell;
-        }
 
         /** To be called wherever anything that laws ask for may have changed. */
         void fresh() {
