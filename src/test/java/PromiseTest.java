@@ -1,101 +1,11 @@
 /** For each promise what it says of ordinary inputs, of its edges, and of wrong inputs. */
-public final class PromiseTest {
-    private static int wrong = 0;
-    private static int asked = 0;
-    private static String promise = "";
-
-    private static void due(String call, long got, long want) {
-        asked++;
-        if (got != want) {
-            wrong++;
-            System.out.println(promise + ": " + call + " answered " + got + ", due is " + want);
-        }
-    }
-
-    private static void due(String call, boolean got, boolean want) {
-        due(call, got ? 1 : 0, want ? 1 : 0);
-    }
-
-    /** The tape has just these bytes then. */
-    private static void tape(FigureTempers x, String text) {
-        x.end(0);
-        for (int i = 0; i < text.length(); i += 20) {
-            int[] v = new int[5];
-            for (int k = 0; k < 20; k++) v[k / 4] = v[k / 4] << 8 | (i + k < text.length() ? text.charAt(i + k) : 32);
-            x.feed(v[0], v[1], v[2], v[3], v[4]);
-        }
-        x.end(text.length());
-    }
-
-    private static int text(FigureTempers x, String text) {
-        tape(x, text);
-        return x.text();
-    }
-
-    private static FigureTempers by(String text) {
-        FigureTempers x = new FigureTempers();
-        due("text of " + text, text(x, text), 0);
-        x.by(0);
-        return x;
-    }
-
-    private static void fault(String text, int what, int place) {
-        FigureTempers x = new FigureTempers();
-        due("text of " + text, text(x, text), what == 0 ? 0 : -1);
-        due("fault(0) of " + text, x.fault(0), what);
-        due("fault(1) of " + text, x.fault(1), place);
-        due("tape behind " + text, x.about(8), 0);
-    }
-
-    private static String times(String s, int n) {
-        StringBuilder b = new StringBuilder();
-        for (int i = 0; i < n; i++) b.append(s);
-        return b.toString();
-    }
-
+public final class PromiseTest extends Check {
     public static void main(String[] args) {
-        made();
-        row();
-        reckon();
-        day();
-        turn();
-        soothe();
-        year();
-        tapes();
-        text();
-        faults();
-        laws();
-        by();
-        played();
-        undo();
-        ofFigure();
-        ofRow();
-        beside();
-        book();
-        foretold();
-        firstOff();
-        ordered();
-        split();
-        nearest();
-        changed();
-        seen();
-        fits();
-        tells();
-        ledger();
-        order();
-        grouping();
-        carried();
-        game();
-        debts();
-        ring();
-        image();
-        about();
-        System.out.println(asked + " answers asked, " + wrong + " not as due");
-        if (wrong != 0) System.exit(1);
+        run(PromiseTest.class);
     }
 
     private static void made() {
-        promise = "1 a new object";
+        of("1 a new object");
         FigureTempers x = new FigureTempers();
         int[] due = {0, 0, 0, 53, 0, -1, 0, 0, 0};
         for (int i = 0; i < due.length; i++) due("about(" + i + ")", x.about(i), due[i]);
@@ -114,7 +24,7 @@ public final class PromiseTest {
     }
 
     private static void row() {
-        promise = "2 row";
+        of("2 row");
         FigureTempers x = new FigureTempers();
         due("0", x.row(0, -1, -1, -1, 0), 0);
         due("four", x.row(9999, 0, 10, 205, 15), 1);
@@ -136,7 +46,7 @@ public final class PromiseTest {
     }
 
     private static void reckon() {
-        promise = "3 reckon";
+        of("3 reckon");
         FigureTempers x = new FigureTempers();
         x.row(1223, 30, -1, -1, 2);
         due("row 1", x.reckon(1), -1000000);
@@ -173,7 +83,7 @@ public final class PromiseTest {
     }
 
     private static void day() {
-        promise = "4 day";
+        of("4 day");
         FigureTempers x = new FigureTempers();
         due("0", x.day(0), -10000000);
         due("61", x.day(61), -10000000);
@@ -201,7 +111,7 @@ public final class PromiseTest {
     }
 
     private static void turn() {
-        promise = "5 turn";
+        of("5 turn");
         FigureTempers x = new FigureTempers();
         due("turn", x.turn(3, 8), true);
         due("bits", x.of(3, 3), 256);
@@ -219,7 +129,7 @@ public final class PromiseTest {
     }
 
     private static void soothe() {
-        promise = "6 soothe";
+        of("6 soothe");
         FigureTempers x = new FigureTempers();
         due("so already", x.soothe(0, 5), false);
         due("0", x.soothe(0, 0), true);
@@ -234,7 +144,7 @@ public final class PromiseTest {
     }
 
     private static void year() {
-        promise = "7 year";
+        of("7 year");
         FigureTempers x = new FigureTempers();
         due("seed -1", x.year(-1, 1), -1);
         due("seed 10000", x.year(10000, 1), -1);
@@ -307,12 +217,12 @@ public final class PromiseTest {
     }
 
     private static void tapes() {
-        promise = "8 feed";
+        of("8 feed");
         FigureTempers x = new FigureTempers();
         for (int i = 1; i <= 15; i++) due("feed", x.feed(0, 0, 0, 0, 0), 20 * i);
         due("beyond 300", x.feed(0, 0, 0, 0, 0), -1);
         due("bytes", x.about(8), 300);
-        promise = "9 end";
+        of("9 end");
         due("301", x.end(301), -1);
         due("-1", x.end(-1), -1);
         due("300", x.end(300), 300);
@@ -322,7 +232,7 @@ public final class PromiseTest {
         due("feed", x.feed(0, 0, 0, 0, 0), 300);
         due("0", x.end(0), 0);
         due("1 of none", x.end(1), -1);
-        promise = "8 feed, the order of bytes";
+        of("8 feed, the order of bytes");
         // "off " "7;  " and a byte 255 behind, cut away
         x.feed(0x6f666620, 0x373b2020, 0x202020ff, -1, -1);
         x.end(11);
@@ -333,7 +243,7 @@ public final class PromiseTest {
     }
 
     private static void text() {
-        promise = "10 text";
+        of("10 text");
         FigureTempers x = new FigureTempers();
         due("empty", x.text(), 0);
         due("blanks", text(x, " \n  \n"), 1);
@@ -349,7 +259,7 @@ public final class PromiseTest {
         due("tape stays", x.about(8), 4);
         due("not read", x.fault(0), 0);
         due("texts", x.about(4), 4);
-        promise = "11 fault";
+        of("11 fault");
         x = new FigureTempers();
         due("ahead of any", x.fault(0), -1);
         due("ahead of any", x.fault(1), -1);
@@ -366,7 +276,7 @@ public final class PromiseTest {
     }
 
     private static void faults() {
-        promise = "10 and 11, FAULTS";
+        of("10 and 11, FAULTS");
         fault("gets 1<2;off 3;mood 4;row 0;reckon 11;turn 0 with 9;soothe 0 to 9;day 60;", 0, -1);
         fault("row-0009+12;", 0, -1);
         fault("gets not not 1<=2 and 3>=2 or not 4#4;", 0, -1);
@@ -489,7 +399,7 @@ public final class PromiseTest {
     }
 
     private static void laws() {
-        promise = "12, what a TEXT says";
+        of("12, what a TEXT says");
         due("off 3+4*5", off("3+4*5"), 23);
         due("off 20-5-4", off("20-5-4"), 11);
         due("off 99/5/3", off("99/5/3"), 6);
@@ -578,7 +488,7 @@ public final class PromiseTest {
     }
 
     private static void by() {
-        promise = "12 by";
+        of("12 by");
         FigureTempers x = new FigureTempers();
         due("0 of none", x.by(0), false);
         due("none", x.by(-1), true);
@@ -598,7 +508,7 @@ public final class PromiseTest {
     }
 
     private static void played() {
-        promise = "13 played";
+        of("13 played");
         FigureTempers x = new FigureTempers();
         due("none", x.played(0), -2);
         due("-1", x.played(-1), -2);
@@ -631,7 +541,7 @@ public final class PromiseTest {
     }
 
     private static void undo() {
-        promise = "14 undo";
+        of("14 undo");
         FigureTempers x = new FigureTempers();
         due("none", x.undo(), -1);
         x.row(12, -1, -1, -1, 0);
@@ -673,7 +583,7 @@ public final class PromiseTest {
     }
 
     private static void ofFigure() {
-        promise = "15 of";
+        of("15 of");
         FigureTempers x = new FigureTempers();
         x.row(77, -1, -1, -1, 0);
         x.turn(7, 7);
@@ -691,7 +601,7 @@ public final class PromiseTest {
     }
 
     private static void ofRow() {
-        promise = "16 ofRow";
+        of("16 ofRow");
         FigureTempers x = new FigureTempers();
         x.row(0, 100, 23, -1, 5);
         x.turn(0, 0);
@@ -715,7 +625,7 @@ public final class PromiseTest {
     }
 
     private static void beside() {
-        promise = "17 beside";
+        of("17 beside");
         FigureTempers x = new FigureTempers();
         x.row(0, 100, 23, -1, 5);
         x.turn(0, 0);
@@ -731,7 +641,7 @@ public final class PromiseTest {
     }
 
     private static void book() {
-        promise = "18 book";
+        of("18 book");
         FigureTempers x = new FigureTempers();
         x.row(5, -1, -1, -1, 1);
         x.row(6, -1, -1, -1, 0);
@@ -754,7 +664,7 @@ public final class PromiseTest {
     }
 
     private static void foretold() {
-        promise = "19 foretold";
+        of("19 foretold");
         FigureTempers x = by("mood temper+1-rows;");
         x.row(11, -1, -1, -1, 0);
         x.turn(1, 1);
@@ -780,7 +690,7 @@ public final class PromiseTest {
     }
 
     private static void firstOff() {
-        promise = "20 firstOff";
+        of("20 firstOff");
         FigureTempers x = by("gets often<5;");
         x.row(12, -1, -1, -1, 0);
         x.row(34, -1, -1, -1, 0);
@@ -801,7 +711,7 @@ public final class PromiseTest {
     }
 
     private static void ordered() {
-        promise = "21 ordered";
+        of("21 ordered");
         FigureTempers x = new FigureTempers();
         x.row(1, 2, 3, -1, 2);
         due("as it is", x.ordered(0, -1), 0);
@@ -841,7 +751,7 @@ public final class PromiseTest {
     }
 
     private static void split() {
-        promise = "22 split";
+        of("22 split");
         FigureTempers x = new FigureTempers();
         due("one", x.split(99, -1), 1);
         due("one", x.split(99, 0), 99);
@@ -871,7 +781,7 @@ public final class PromiseTest {
     }
 
     private static void nearest() {
-        promise = "23 nearest";
+        of("23 nearest");
         FigureTempers x = new FigureTempers();
         due("itself", x.nearest(0), 0);
         due("itself", x.nearest(9999), 9999);
@@ -897,7 +807,7 @@ public final class PromiseTest {
     }
 
     private static void changed() {
-        promise = "24 changed";
+        of("24 changed");
         FigureTempers x = new FigureTempers();
         x.row(12, 5, -1, -1, 0);
         due("true already", x.changed(0, 0), -1);
@@ -934,7 +844,7 @@ public final class PromiseTest {
     }
 
     private static void seen() {
-        promise = "25 seen";
+        of("25 seen");
         FigureTempers x = new FigureTempers();
         due("no row", x.seen(0, 0), -2);
         due("none", x.seen(-1, 7), 0);
@@ -953,7 +863,7 @@ public final class PromiseTest {
     }
 
     private static void fits() {
-        promise = "26 fits";
+        of("26 fits");
         FigureTempers x = by("gets 1=2;off warm*10-cool;");
         x.row(12, -1, -1, -1, 0);
         x.row(23, -1, -1, -1, 0);
@@ -992,7 +902,7 @@ public final class PromiseTest {
     }
 
     private static void tells() {
-        promise = "27 tells";
+        of("27 tells");
         FigureTempers x = by("gets bad=0;off warm-cool;");
         due("no rows", x.tells(2), -1);
         x.row(45, -1, -1, -1, 0);
@@ -1014,7 +924,7 @@ public final class PromiseTest {
     }
 
     private static void ledger() {
-        promise = "28 ledger";
+        of("28 ledger");
         FigureTempers x = by("gets often=0;off often;");
         x.row(12, -1, -1, -1, 0);
         x.row(13, -1, -1, -1, 0);
@@ -1047,7 +957,7 @@ public final class PromiseTest {
     }
 
     private static void order() {
-        promise = "29 order";
+        of("29 order");
         FigureTempers x = new FigureTempers();
         due("none", x.order(100), -1);
         due("0", x.order(0), -1);
@@ -1063,7 +973,7 @@ public final class PromiseTest {
     }
 
     private static void grouping() {
-        promise = "30 grouping";
+        of("30 grouping");
         FigureTempers x = new FigureTempers();
         due("none", x.grouping(12), -1);
         due("0", x.grouping(0), -1);
@@ -1092,7 +1002,7 @@ public final class PromiseTest {
     }
 
     private static void carried() {
-        promise = "31 carried";
+        of("31 carried");
         FigureTempers x = new FigureTempers();
         due("9999 and 1", x.carried(9999, 1, false), 4);
         due("0 and 0", x.carried(0, 0, false), 0);
@@ -1119,7 +1029,7 @@ public final class PromiseTest {
     }
 
     private static void game() {
-        promise = "32 game";
+        of("32 game");
         FigureTempers x = new FigureTempers();
         for (int n = 1; n <= 6; n++) {
             due("all get on, " + n, x.game((1 << n) - 1, false), n % 2 == 0 ? 1 : 0);
@@ -1146,7 +1056,7 @@ public final class PromiseTest {
     }
 
     private static void debts() {
-        promise = "33 debt";
+        of("33 debt");
         FigureTempers x = new FigureTempers();
         due("debt", x.debt(0, 5, 9999), true);
         due("itself", x.debt(3, 3, 1), false);
@@ -1155,7 +1065,7 @@ public final class PromiseTest {
         due("-1", x.debt(3, 4, -1), false);
         due("10000", x.debt(3, 4, 10000), false);
         due("no step", x.about(6), 0);
-        promise = "34 worth";
+        of("34 worth");
         due("owed", x.worth(5), 9999);
         due("owes", x.worth(0), -9999);
         due("others", x.worth(3), 0);
@@ -1175,7 +1085,7 @@ public final class PromiseTest {
     }
 
     private static void ring() {
-        promise = "35 ring";
+        of("35 ring");
         FigureTempers x = new FigureTempers();
         due("none", x.ring(-1), -1);
         due("none", x.ring(-2), -1);
@@ -1221,7 +1131,7 @@ public final class PromiseTest {
     }
 
     private static void image() {
-        promise = "36 and 37, image and back";
+        of("36 and 37, image and back");
         FigureTempers x = new FigureTempers();
         text(x, "gets 1=2;");
         x.by(0);
@@ -1274,7 +1184,7 @@ public final class PromiseTest {
     }
 
     private static void about() {
-        promise = "38 about";
+        of("38 about");
         FigureTempers x = new FigureTempers();
         due("9", x.about(9), -2);
         due("-1", x.about(-1), -2);
