@@ -30,6 +30,25 @@ public final class BoundPromisesTest extends Check {
         due(call + " at stand " + stand, asking.on(STANDS[stand].made()), want);
     }
 
+    static void theConstant() {
+        of("The constants: NONE = -1");
+        due("NONE", FigureTempers.NONE, -1);
+    }
+
+    static void the512thCall() {
+        of("An object is used for at most 512 calls: the 512th is answered as the first");
+        FigureTempers x = fresh();
+        one(x, 12);
+        for (int call = 1; call < 511; call++) x.reckon(0);
+        due("510 times 12", x.about(2), 6120);
+        Make later = () -> {
+            FigureTempers y = fresh();
+            for (int call = 0; call < 300; call++) y.nearest(9999 - call);
+            return y;
+        };
+        due("a new one behind 300 calls is as new", look(later, null).equals(look(Check::fresh, null)), true);
+    }
+
     static void aNewObject() {
         of("Promise 1: no ROWS; THE IMAGE is this");
         int[] due = {0, 0, 0, 53, 0, -1, 0, 0, 0};
