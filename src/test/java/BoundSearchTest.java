@@ -819,6 +819,18 @@ public final class BoundSearchTest extends Check {
         due("nothing is USED by it", x.of(1, 1), 0);
     }
 
+    static void ledgerOfFiveTheOtherWayRound() {
+        of("LEDGER: an order of 5 ROWS: any, to the other way round");
+        // 1 is USED once more by each ROW: the greatest left one has to come first
+        FigureTempers x = by("gets 1=2;off left*often;");
+        for (int left = 2; left <= 6; left++) one(x, 10 * left + 1);
+        ledger(x, 31, 5 + 8 + 9 + 8, 4, 3, 2, 1, 0);
+        ledger(x, 21, 4 + 4, 4, 2, 0);
+        x = by("gets 1=2;off left*often;");
+        for (int left : new int[] {4, 2, 6, 3, 5}) one(x, 10 * left + 1);
+        ledger(x, 31, 30, 2, 4, 0, 3, 1);
+    }
+
     static void ledgerUsedAtMost() {
         of("LEDGER: USED is 999 at most in it too");
         FigureTempers x = by("gets 1=2;off often-1950;");
