@@ -27,6 +27,8 @@ public final class FigureTempers {
     private static final int MOST_SEEN = 6;
     private static final int MOST_SEEN_OUT = 99999;
     private static final int BANKS = 6;
+    // Above all that the least is looked for among.
+    private static final int FAR = 10000000;
 
     // Where all that a STEP can change stands in one array, so that one copy keeps it.
     private static final int TEMPER = 0;
@@ -1631,7 +1633,7 @@ public final class FigureTempers {
             rest[all] = 0;
             for (int done = all - 1; done >= 0; done--) {
                 askBehind(done, size);
-                rest[done] = Integer.MAX_VALUE;
+                rest[done] = FAR;
                 for (int i = 0; i < size; i++) {
                     if ((done >> i & 1) == 0) {
                         rest[done] = Math.min(rest[done], apart[done * 5 + i] + rest[done | 1 << i]);
@@ -1738,7 +1740,7 @@ public final class FigureTempers {
         /** The ROW that TELLS, after FITS were found. */
         int tellsMost() {
             int best = NONE;
-            int fewest = Integer.MAX_VALUE;
+            int fewest = FAR;
             for (int row = 0; row < house.count; row++) {
                 spread(house.rows[row]);
                 int most = mostAlike();
@@ -1840,7 +1842,7 @@ public final class FigureTempers {
             for (int size = 2; size <= BANKS; size++) {
                 for (int first = 0; first < BANKS; first++) {
                     path[0] = first;
-                    if (closes(1, size)) {
+                    if (closes(owed, path, 1, size)) {
                         return size;
                     }
                 }
@@ -1848,8 +1850,8 @@ public final class FigureTempers {
             return 0;
         }
 
-        /** Whether so many of path can go on to a ring of a size; the lowest BANKS are tried first. */
-        private boolean closes(int set, int size) {
+        /** Whether so many of a path can go on to a ring of a size; the lowest BANKS are tried first. */
+        private static boolean closes(int[] owed, int[] path, int set, int size) {
             int last = path[set - 1];
             if (set >= size) {
                 return owed[last * BANKS + path[0]] > 0;
@@ -1861,7 +1863,7 @@ public final class FigureTempers {
                 }
                 if (fresh && owed[last * BANKS + next] > 0) {
                     path[set] = next;
-                    if (closes(set + 1, size)) {
+                    if (closes(owed, path, set + 1, size)) {
                         return true;
                     }
                 }
@@ -1870,7 +1872,7 @@ public final class FigureTempers {
         }
 
         int leastAround(int size) {
-            int least = Integer.MAX_VALUE;
+            int least = FAR;
             for (int i = 0; i < size; i++) {
                 least = Math.min(least, owed[path[i] * BANKS + path[(i + 1) % size]]);
             }

@@ -13,7 +13,7 @@ public final class BoundPromisesTest extends Check {
     /** Sets of no FIGURES, of more than most, of some that aren't. */
     private static final int[] NO_SET = {0, -1, 1024, 1025, 1 << 30, MIN, MAX};
 
-    private static final Make[] STANDS = {Check::fresh, Check::busy, Check::full};
+    private static final Make[] STANDS = {Check::fresh, Check::busy, Check::full, Check::today};
     private static final int[] ROWS = {0, 4, 12};
     private static final int[] TEXTS = {0, 2, 4};
 
@@ -330,6 +330,11 @@ public final class BoundPromisesTest extends Check {
             return x;
         };
         nothing(bare, "undo behind all", x -> x.undo(), -1);
+        nothing(() -> {
+            FigureTempers x = today();
+            for (int i = 0; i < 30; i++) x.undo();
+            return x;
+        }, "undo behind all, with an X of A YEAR that is no STEP any more", x -> x.undo(), -1);
         due(2, "undo of 30", x -> x.undo(), 29);
         due("steps", full().about(6), 30);
         FigureTempers x = bare.made();
@@ -652,6 +657,27 @@ public final class BoundPromisesTest extends Check {
         };
         nothing(backed, "back again", x -> x.back(), 0);
         nothing(backed, "back behind a year", x -> x.year(5, 30) * 0 + x.back(), 0);
+    }
+
+    static void whatIsToldTouchesNothingElse() {
+        of("Promises 8, 9, 12, 25, 33, 37: what is told, and then told as it was, leaves all else as it was");
+        nothing(Check::busy, "feed, end", x -> x.feed(1, 2, 3, 4, 5) * 0 + x.end(12), 12);
+        nothing(Check::busy, "by 1, by none, by 0", x -> bit(x.by(1)) + bit(x.by(-1)) + bit(x.by(0)), 3);
+        nothing(Check::busy, "debt 99, debt 12", x -> bit(x.debt(0, 1, 99)) + bit(x.debt(0, 1, 12)), 2);
+        nothing(Check::today, "debt 5, debt 0", x -> bit(x.debt(0, 5, 5)) + bit(x.debt(0, 5, 0)), 2);
+        Make unseen = () -> {
+            FigureTempers x = today();
+            x.seen(-1, 0);
+            return x;
+        };
+        nothing(unseen, "seen, none any more", x -> x.seen(0, 0) + x.seen(3, 5) + x.seen(-1, 0), 1 + 2);
+        Make imaged = () -> {
+            FigureTempers x = today();
+            x.image();
+            return x;
+        };
+        nothing(imaged, "a row, back", x -> x.row(1, 2, 3, 4, 5) + x.back(), 4 + 5);
+        nothing(imaged, "image again", x -> x.image(), 5);
     }
 
     static void about() {

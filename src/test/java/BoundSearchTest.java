@@ -60,7 +60,8 @@ public final class BoundSearchTest extends Check {
             x -> x.ledger(7, -1), x -> x.ledger(7, 2), x -> x.order(100), x -> x.grouping(12), x -> x.carried(777, 777, false),
             x -> x.carried(777, 777, true), x -> x.game(63, false), x -> x.game(63, true), x -> x.worth(1), x -> x.ring(-1),
             x -> x.of(7, 1), x -> x.ofRow(1, 2), x -> x.beside(1, 1), x -> x.book(0, 2), x -> x.fault(0), x -> x.about(2)};
-        Make[] makes = {Check::busy, Check::full};
+        Make[] makes = {Check::busy, Check::full, Check::today};
+        for (int f : new int[] {1, 2, 7}) due("QUARRELS of today", today().of(f, 2) > 0, true);
         for (Make make : makes)
             for (int i = 0; i < search.length; i++)
                 nothing(make, "search " + i, search[i], search[i].on(make.made()));
@@ -155,6 +156,28 @@ public final class BoundSearchTest extends Check {
         due("off 1", x.firstOff(30, 3), 1);
     }
 
+    static void firstOffByMoods() {
+        of("FORETOLD: in how many DAYS a ROW first comes out other than TRUE: TEMPERS, USED, DAY as they are by then");
+        FigureTempers x = by("gets warm<7;mood temper+1;");
+        one(x, 12);
+        due("TEMPER 7 on the third DAY", x.firstOff(30, 0), 3);
+        due("not within two", x.firstOff(2, 0), -1);
+        due("TEMPER stays", x.of(1, 0), 5);
+        x = by("gets bad=0 and warm<9;mood temper+rows;");
+        one(x, 33);
+        one(x, 31);
+        x.turn(3, 3);
+        due("TEMPER 9 behind two DAYS of two QUARRELS each", x.firstOff(30, 1), 3);
+        x.reckon(0);
+        due("today's two and tomorrow's", x.firstOff(30, 1), 2);
+        due("the other one, today", x.firstOff(30, 0), 1);
+        x = by("gets day<3 or left#1;");
+        one(x, 21);
+        one(x, 12);
+        due("DAY 3 is the fourth", x.firstOff(30, 1), 4);
+        due("another ROW", x.firstOff(30, 0), -1);
+    }
+
     // ORDERED
 
     static void orderedAsItIs() {
@@ -202,6 +225,17 @@ public final class BoundSearchTest extends Check {
         rule(x, "gets left=3 and right=1 or left=1 and right=2 or left=2 and right=1;");
         // 3 1 2 and 3 2 1: 3 beside 2 quarrels; 2 3 1: 2 beside 3 does; 1 2 3: does
         ordered(x, 0, 2, 2, 0, 1);
+    }
+
+    static void orderedFewestOfFour() {
+        of("ORDERED: the fewest twos that have changed sides, also if one with more has a lower first one");
+        FigureTempers x = by("gets left*10+right=14 or left*10+right=43 or left*10+right=32 or left*10+right=21"
+                + " or left*10+right=13 or left*10+right=34;");
+        x.row(1, 2, 3, 4, 0);
+        // 1 4 3 2: three; 2 1 3 4: one
+        ordered(x, 0, 1, 1, 0, 2, 3);
+        x.row(4, 3, 2, 1, 5);
+        ordered(x, 1, 0, 0, 1, 2, 3);
     }
 
     static void orderedOfLikeOnes() {
@@ -770,6 +804,15 @@ public final class BoundSearchTest extends Check {
         }
     }
 
+    static void tellsMoreFromLess() {
+        of("TELLS: one and the same OUT: as much more and as much less are two");
+        // 3: less(8,warm), the most alike are two; 2: warm-4, none are alike
+        FigureTempers x = by("gets 1=2;off (warm-4)*(3-right)+less(8,warm)*(right-2);");
+        one(x, 13);
+        one(x, 12);
+        due("-4 to 5 are ten", x.tells(2), 1);
+    }
+
     static void tellsSets() {
         of("TELLS: a set of 1 to 3 FIGURES");
         FigureTempers x = by("gets 1=2;off warm;");
@@ -842,6 +885,23 @@ public final class BoundSearchTest extends Check {
         ledger(x, 2, 34, 1);
     }
 
+    static void ledgerAllElseAsNow() {
+        of("LEDGER: USED is as it is then; DAY, TEMPERS, QUARRELS, TERMS as now");
+        FigureTempers x = by("gets bad=0;off day*10+warm;");
+        one(x, 12);
+        one(x, 21);
+        x.turn(1, 2);
+        x.day(2);
+        ledger(x, 3, 25 + 25, 0, 1);
+        rule(x, "gets bad=0;off day*10+warm;mood temper+rows+3;");
+        ledger(x, 3, 25 + 25, 0, 1);
+        x.reckon(0);
+        ledger(x, 3, 25 + 25, 0, 1);
+        x.soothe(2, 9);
+        // 1 is the left one of 12, 2 of 21
+        ledger(x, 3, 25 + 29, 0, 1);
+    }
+
     static void ledgerLikeOnes() {
         of("LEDGER: the least that OUT and TRUE are apart, of all together; of like ones the lowest first ROW, then the second");
         FigureTempers x = fresh();
@@ -889,6 +949,22 @@ public final class BoundSearchTest extends Check {
         due("none below 9", x.order(9), -1);
     }
 
+    static void orderByOff() {
+        of("ORDER: come out unlike: by OUT, also if they QUARREL either way");
+        FigureTempers x = by("gets 1=2;off left+1;");
+        due("1 and 2", x.order(100), 1);
+        x = by("gets 1=2;off left-right;");
+        due("-1 and 1", x.order(100), 1);
+        x = by("gets 1=2;off left+right;");
+        // 0 and 10: 0 1, 1 0; 1 0, 0 0
+        due("0 1 0 and 1 0 0", x.order(100), 10);
+        x = by("gets 1=2;off 0;");
+        due("off 0", x.order(100), -1);
+        x = by("gets left>right;off left*right;");
+        // 1 0 is off 0, 2 1 isn't
+        due("2 1", x.order(100), 102);
+    }
+
     static void groupingBelow() {
         of("GROUPING matters below m (1 .. 12): none");
         FigureTempers x = fresh();
@@ -916,6 +992,19 @@ public final class BoundSearchTest extends Check {
         x.turn(2, 0);
         // 0 0 0: 1 2 0 quarrels: -24; 0 1 2 doesn't
         due("below 1", x.grouping(1), 0);
+    }
+
+    static void groupingByOutWithItsSign() {
+        of("GROUPING: unlike: as much more and as much less are; a ROW of two with minus is less");
+        FigureTempers x = by("gets 1=2;off 3-5*left/3-7*right/3;");
+        // 0 0: 3; 3 0: 3 - 2; 0 3: 3 - 4
+        due("1 and -1", x.grouping(1), 0);
+        // 0 0: -3; -3 and 1: -2 and 3; 0 and 1: 1; 1 and -3: -2 and 3; all others get on
+        x = by("gets left+right#0 and left*right#3;off left*right*2-3;");
+        due("alike", x.grouping(2), -1);
+        // 0 0: -3; -3 and 1: -2; 0 and 1: 1
+        x = by("gets left+right#0;off -3;");
+        due("-2 and 1", x.grouping(2), 1);
     }
 
     static void groupingOfTwoDigits() {
@@ -957,6 +1046,8 @@ public final class BoundSearchTest extends Check {
         rule(x, "gets apart=1 and last=0;");
         due("APART, not last", x.carried(9999, 9999, true), 0);
         due("carried all the same", x.carried(9999, 9999, false), 4);
+        rule(x, "gets 1=2;off 0;");
+        due("they QUARREL, if off is 0 too", x.carried(9999, 1111, true), 4);
     }
 
     // A GAME
@@ -997,6 +1088,21 @@ public final class BoundSearchTest extends Check {
         due("pairs", x.game(1 | 512 | 2 | 256, false), 0);
         due("pairs", x.game(1 | 512 | 2 | 256, true), -1);
         due("one alone", x.game(1 | 512 | 2, true), 1);
+        x = by("gets 1=2;off 0;");
+        due("all quarrel, if off is 0 too", x.game(7, true), 0);
+        due("all quarrel, if off is 0 too", x.game(15, false), 1);
+    }
+
+    static void gameOfTwoBeside() {
+        of("A GAME: TWO are the one set last and the one it is set behind, not those ahead of that");
+        FigureTempers x = fresh();
+        x.turn(0, 1);
+        x.turn(2, 3);
+        // 0, then 2 (or 3): 1 goes behind 2, 3 behind 1; none is left to the other one
+        due("0 wins", x.game(15, true), 0);
+        // without 0: 1, then 2 or 3, and the last one quarrels; 2 or 3, then 1, and the last one goes
+        due("nobody", x.game(14, true), -1);
+        due("who begins loses", x.game(14, false), 0);
     }
 
     // DEBTS, WORTH, RING

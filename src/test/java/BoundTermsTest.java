@@ -747,6 +747,47 @@ public final class BoundTermsTest extends Check {
         due("balance", x.about(2), 66);
     }
 
+    static void yearOfAnyRows() {
+        of("A YEAR: 2: a ROW drawn by how many there are: X mod so many");
+        for (int count = 1; count <= 12; count++) {
+            FigureTempers x = fresh();
+            for (int i = 0; i < count; i++) one(x, i);
+            // SEEDS that are 1 by 2 make X 2 by 6
+            for (int seed = 1; seed < 40; seed += 2) {
+                int first = seed * 3 + 53;
+                due("by 6", first % 6, 2);
+                int then = (first * 257 + 151) % 30241;
+                due("year of " + seed, x.year(seed, 1), 0);
+                due("row of " + count, x.book(x.book(-1, 0) - 1, 0), then % count);
+                due("X", x.about(3), (then * 257 + 151) % 30241);
+            }
+        }
+    }
+
+    static void yearReckons() {
+        of("A YEAR: a ROW is RECKONED, a DAY passes, as by hand: USED, QUARRELS, BALANCE, what is written down, moods");
+        FigureTempers x = byWith("gets 1=2;off 3;mood rows+2;", 12);
+        // 56 by 6 is 2, 53 is 5
+        due("a ROW", x.year(1, 1), 1);
+        for (int f = 1; f <= 2; f++) {
+            due("used", x.of(f, 1), 1);
+            due("quarrels", x.of(f, 2), 1);
+            due("temper", x.of(f, 0), 5);
+        }
+        due("balance", x.about(2), 15);
+        due("written", x.book(0, 2), 15);
+        due("day", x.about(1), 0);
+        due("a DAY", x.year(0, 1), 1);
+        due("used", x.of(1, 1), 2);
+        due("quarrels", x.of(1, 2), 0);
+        due("mood of the DAY's QUARRELS, the drawn ROW's too", x.of(1, 0), 4);
+        due("mood of others", x.of(0, 0), 2);
+        due("balance", x.about(2), 30);
+        due("written", x.book(-1, 0), 2);
+        due("its DAY", x.book(1, 1), 0);
+        due("day", x.about(1), 1);
+    }
+
     static void yearOfDays() {
         of("A YEAR: else a DAY: 3, 4, 5");
         int[] seeds = {61, 23, 1};
@@ -797,5 +838,35 @@ public final class BoundTermsTest extends Check {
         // 56 by 6 is 2, and 14543 by 3 is 2: the ROW of one digit; 59 by 6 is 5
         due("a ROW that is TRUE", x.year(1, 1), 0);
         due("a DAY", x.year(2, 1), 1);
+    }
+
+    static void yearCountsAllOfADay() {
+        of("A YEAR: how many ROWS came out other than TRUE in it: of a DAY each of them, by OUT, not by QUARRELS");
+        FigureTempers x = byWith("gets 1=2;off left-1;", 23, 34, 17, 7, 45);
+        due("three of five in a DAY", x.year(0, 1), 3);
+        // 56 by 6 is 2, and 14543 by 5 is 3; 65 by 6 is 5; 62 by 6 is 2, and 16085 by 5 is 0
+        due("the ROW of one digit", x.year(1, 1), 0);
+        due("row", x.book(x.book(-1, 0) - 1, 0), 3);
+        due("23", x.year(3, 1), 1);
+        due("row", x.book(x.book(-1, 0) - 1, 0), 0);
+        x = byWith("gets 1=2;off left-1;", 17);
+        due("a ROW that QUARRELS and is TRUE", x.year(1, 1), 0);
+        due("it QUARRELS", x.of(7, 2), 1);
+        due("and in a DAY", x.year(0, 1), 0);
+    }
+
+    static void yearCountsEachTime() {
+        of("A YEAR: how many ROWS came out other than TRUE in it: each time that one did");
+        FigureTempers x = byWith("gets 1=2;", 12);
+        for (int seed : new int[] {0, 7, 5000, 9999}) {
+            int draws = seed * 3 + 53;
+            int often = 0;
+            for (int i = 0; i < 20; i++) {
+                int w = draws % 6;
+                for (int k = 0; k < (w < 2 ? 3 : w == 2 ? 2 : 1); k++) draws = (draws * 257 + 151) % 30241;
+                often += w >= 2 ? 1 : 0;
+            }
+            due("year of " + seed, x.year(seed, 20), often);
+        }
     }
 }

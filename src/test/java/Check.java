@@ -237,6 +237,28 @@ class Check {
         return x;
     }
 
+    /** Within a DAY: QUARRELS, moods that see them, and an X that no STEP knows of any more. */
+    static FigureTempers today() {
+        FigureTempers x = new FigureTempers();
+        text(x, "gets bad=0;off left-warm;mood temper+rows-day;");
+        x.by(0);
+        x.turn(1, 2);
+        x.turn(7, 7);
+        x.row(12, 77, -1, -1, 2);
+        x.row(7, 1, 2, -1, 0);
+        x.row(777, -1, -1, -1, 1);
+        x.row(5, -1, -1, -1, 0);
+        x.year(2, 7);
+        for (int i = 0; i < 29; i++) x.soothe(3, i % 2);
+        x.seen(0, -60);
+        x.debt(3, 4, 77);
+        x.debt(4, 3, 12);
+        x.image();
+        x.reckon(0);
+        x.reckon(2);
+        return x;
+    }
+
     /** All that there is room for. */
     static FigureTempers full() {
         FigureTempers x = new FigureTempers();
