@@ -65,6 +65,8 @@ public final class LanguageTest {
             String body = source.substring(m.end(), end);
             refuse(body.chars().filter(c -> c == '\n').count() > 60, "a long method: " + m.group(4));
             refuse(m.group(5).split(",").length > 7, "many parameters: " + m.group(4));
+            // README.md: all room is taken when an object is made
+            refuse(m.group(3) != null && Pattern.compile("\\bnew\\b").matcher(body).find(), "makes objects: " + m.group(4));
         }
         refuse(count < 100, "only " + count + " methods were looked at");
     }
