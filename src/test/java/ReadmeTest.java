@@ -13,7 +13,6 @@ import java.util.Set;
 import java.util.TreeSet;
 import java.util.regex.Matcher;
 import java.util.regex.Pattern;
-import javax.tools.ToolProvider;
 
 /** What README.md says: its program answers as it says, and names every call; the room of an object. */
 public final class ReadmeTest extends Check {
@@ -60,8 +59,8 @@ public final class ReadmeTest extends Check {
         Path folder = Files.createTempDirectory("readme");
         Path file = folder.resolve("ReadmeRun.java");
         Files.write(file, program.getBytes(StandardCharsets.UTF_8));
-        int faults = ToolProvider.getSystemJavaCompiler().run(null, System.out, System.out, "-cp",
-                System.getProperty("java.class.path"), "-d", folder.toString(), file.toString());
+        int faults = new ProcessBuilder("javac", "-cp", System.getProperty("java.class.path"), "-d", folder.toString(), file.toString())
+                .inheritIO().start().waitFor();
         due("faults of the program", faults, 0);
         if (faults == 0)
             try (URLClassLoader loader = new URLClassLoader(new URL[] {folder.toUri().toURL()}, ReadmeTest.class.getClassLoader())) {
