@@ -184,6 +184,11 @@ public final class BoundPromisesTest extends Check {
                 y.end(left);
                 return y;
             }, "feed behind " + left, y -> y.feed(0x64617920, 1, 2, 3, 4), -1);
+        nothing(() -> {
+            FigureTempers y = today();
+            for (int i = 0; i < 15; i++) y.feed(0x64617920, 0x393b2020, 0x20202020, 0x20202020, 0x20202020);
+            return y;
+        }, "feed behind 300, within a DAY", y -> y.feed(0x64617920, 1, 2, 3, 4), -1);
     }
 
     static void feedsBytes() {
@@ -216,6 +221,7 @@ public final class BoundPromisesTest extends Check {
             due(stand, "end(0)", x -> x.end(0), 0);
             due(stand, "bytes behind end(0)", x -> x.end(0) + x.about(8), 0);
         }
+        for (int n : new int[] {-1, 1, 20}) refused(3, "end(" + n + ") of none", x -> x.end(n), -1);
         due(2, "end(299)", x -> x.end(299), 299);
         due(2, "bytes behind it", x -> x.end(299) - x.about(8), 0);
         due(1, "its first n bytes alone", x -> x.end(6) * 10 + x.text(), 62);
@@ -335,6 +341,12 @@ public final class BoundPromisesTest extends Check {
             for (int i = 0; i < 30; i++) x.undo();
             return x;
         }, "undo behind all, with an X of A YEAR that is no STEP any more", x -> x.undo(), -1);
+        nothing(() -> {
+            FigureTempers x = today();
+            for (int i = 0; i < 30; i++) x.soothe(3, 1 + i % 2);
+            for (int i = 0; i < 30; i++) x.undo();
+            return x;
+        }, "undo behind all, with QUARRELS of what is no STEP any more", x -> x.undo(), -1);
         due(2, "undo of 30", x -> x.undo(), 29);
         due("steps", full().about(6), 30);
         FigureTempers x = bare.made();
